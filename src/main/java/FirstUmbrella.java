@@ -596,32 +596,30 @@ public final class FirstUmbrella {
             return byteAt(index) - '0';
         }
 
-        static int sizeOf(int kind) {
-            return kind == 'W' ? 3 : 4;
-        }
-
         int firstFault() {
             if (length == 0 || byteAt(0) != 'U') {
                 return 0;
             }
             int walkers = 0;
             int needs = 0;
-            int size = 1;
-            for (int i = 1; i < length; i += size) {
-                int kind = byteAt(i);
-                walkers += kind == 'W' ? 1 : 0;
-                needs += kind == 'N' ? 1 : 0;
-                if (kind != 'W' && kind != 'N' || walkers > MOST_WALKERS || needs > MOST_NEEDS) {
+            int thing = 1;
+            int next = 1;
+            for (int i = 1; i < length; i++) {
+                if (i == next) {
+                    boolean isWalker = byteAt(i) == 'W';
+                    boolean isNeed = byteAt(i) == 'N';
+                    walkers += isWalker ? 1 : 0;
+                    needs += isNeed ? 1 : 0;
+                    if (!isWalker && !isNeed || walkers > MOST_WALKERS || needs > MOST_NEEDS) {
+                        return i;
+                    }
+                    thing = i;
+                    next = i + (isWalker ? 3 : 4);
+                } else if (!isFitting(thing, i - thing)) {
                     return i;
                 }
-                size = sizeOf(kind);
-                for (int k = 1; k < size; k++) {
-                    if (i + k >= length || !isFitting(i, k)) {
-                        return i + k;
-                    }
-                }
             }
-            return NONE;
+            return next == length ? NONE : length;
         }
 
         private boolean isFitting(int thing, int k) {
@@ -652,14 +650,12 @@ public final class FirstUmbrella {
         void readFrom(Script text) {
             walkers = 0;
             needs = 0;
-            int size = 1;
-            for (int i = 1; i < text.length(); i += size) {
-                size = Script.sizeOf(text.byteAt(i));
+            for (int i = 1; i < text.length(); i++) {
                 if (text.byteAt(i) == 'W') {
                     put(homes, walkers, text.figureAt(i + 1));
                     put(stuffs, walkers, text.figureAt(i + 2));
                     walkers++;
-                } else {
+                } else if (text.byteAt(i) == 'N') {
                     put(needStreets, needs, text.figureAt(i + 1));
                     put(needSorts, needs, text.figureAt(i + 2));
                     put(needFigures, needs, text.figureAt(i + 3));

@@ -125,6 +125,11 @@ public final class AheadTest {
         FirstUmbrella week = Towns.of("UW02W50N519");
         week.open(1);
         Check.due("others stay", week.sent(0, 1), 1);
+        FirstUmbrella behind = Towns.of("UW00N005N319");
+        behind.judge(2, 100000L);
+        Check.due("what was asked ahead is nothing to it", behind.sent(0, 0), 3);
+        behind.judge(2, 100000L);
+        Check.due("nor to how many", behind.sent(0, 1), 2);
         Check.due("to the last street", Towns.of("UW00N519").sent(0, 0), 5);
     }
 

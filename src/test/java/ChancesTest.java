@@ -186,6 +186,12 @@ public final class ChancesTest {
         for (int pick = 15; pick < 24; pick++) {
             weeksIs(x, seedFor(pick), 1, 0);
         }
+        FirstUmbrella five = Towns.of("UW00W10W20W30W43");
+        weeksIs(five, seedFor(4), 1, 3);
+        weeksIs(five, seedForTwo(14, 4), 2, 2);
+        five.open(4);
+        weeksIs(five, seedFor(9), 1, 0);
+        weeksIs(five, seedFor(14), 1, 3);
     }
 
     private static void weeksOfMore() {

@@ -54,6 +54,13 @@ public final class TownTest {
         Check.due("after wipe()", x.about(10), 0);
         Check.due("write behind wipe()", x.write('U'), 1);
         Check.due("the first byte is new", x.fault(), -9);
+        x.wipe();
+        Towns.write(x, "UW00N000");
+        x.wipe();
+        Towns.write(x, "UW0");
+        Check.due("what was wiped is no part of the text", x.fault(), 3);
+        Towns.write(x, "0N00");
+        Check.due("nor further behind", x.fault(), 7);
     }
 
     private static void faultIs(String text, int due) {
