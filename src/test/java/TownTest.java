@@ -131,7 +131,12 @@ public final class TownTest {
         Check.due("the text stays without fault", x.fault(), -9);
         x.wipe();
         Check.due("the town stays without its text", x.about(0), 1);
-        Check.due("its walker stays", x.walker(0, 0), 2);
+        Towns.write(x, "U");
+        Check.due("town() of a shorter text", x.town(), 0);
+        x.wipe();
+        Towns.write(x, "UW21");
+        Check.due("bytes that were wiped make no need", x.town(), 10);
+        Check.due("its walker", x.walker(0, 0), 2);
     }
 
     private static void townMadeAnew() {
