@@ -14,6 +14,15 @@ final class Check {
         }
     }
 
+    /** What a promise of the document says, told by the promise's number. */
+    static void due(int promise, String sentence, long got, long due) {
+        due("Promise " + promise + ": " + sentence, got, due);
+    }
+
+    static void due(int promise, String sentence, String got, String due) {
+        due("Promise " + promise + ": " + sentence, got, due);
+    }
+
     static void due(String call, String got, String due) {
         asked++;
         if (!got.equals(due)) {

@@ -25,7 +25,8 @@ public final class FaceTest {
     private static final String[] FORBIDDEN = {
         "\\bthrow\\b", "\\btry\\b", "\\bcatch\\b", "\\bsynchronized\\b", "\\bassert\\b", "->", "::", "\\brecord\\b",
         "\\bnative\\b", "\\bvolatile\\b", "Exact\\s*\\(", "\\bprotected\\b", "System\\.(?!arraycopy)", "\\bpackage\\b",
-        "\\bimport (?!java\\.util\\.Arrays;)", "\\bwhile\\s*\\(true", "\\bRandom\\b", "\\bObject\\b", "\\bThread\\b"
+        "\\bimport (?!java\\.util\\.Arrays;)", "\\bwhile\\s*\\(true", "\\bRandom\\b", "\\bObject\\b", "\\bThread\\b",
+        "\\bString\\.", "\\bInteger\\.(?!bitCount)", "\\bstatic \\{", "\\bhashCode\\b", "\\btoString\\b"
     };
 
     private FaceTest() {
@@ -35,6 +36,10 @@ public final class FaceTest {
         constants();
         members();
         innerNames();
+        shapes(FirstUmbrella.class);
+        for (Class<?> inner : FirstUmbrella.class.getDeclaredClasses()) {
+            shapes(inner);
+        }
         sourceWords(Files.readString(SOURCE));
         methodLengths(Files.readString(SOURCE));
         Check.end();
@@ -109,6 +114,21 @@ public final class FaceTest {
             Check.due("a name of the face again: " + method, again ? 1 : 0, 0);
         }
         Check.due("twelve classes at most", classes <= 12 ? 1 : 0, 1);
+    }
+
+    /** Rules 5 and 11: static fields that stay, twenty others, seven parameters. */
+    private static void shapes(Class<?> one) {
+        int fields = 0;
+        for (Field field : one.getDeclaredFields()) {
+            boolean isStatic = Modifier.isStatic(field.getModifiers());
+            fields += isStatic ? 0 : 1;
+            boolean stays = Modifier.isFinal(field.getModifiers());
+            Check.due("static, then final: " + field, isStatic && !stays ? 1 : 0, 0);
+        }
+        Check.due("twenty fields at most in " + one, fields <= 20 ? 1 : 0, 1);
+        for (Method method : one.getDeclaredMethods()) {
+            Check.due("seven parameters at most: " + method, method.getParameterCount() <= 7 ? 1 : 0, 1);
+        }
     }
 
     private static void sourceWords(String source) {

@@ -23,6 +23,12 @@ final class Towns {
         }
     }
 
+    static void hours(FirstUmbrella x, int n) {
+        for (int i = 0; i < n; i++) {
+            x.hour();
+        }
+    }
+
     /** All that can be read of an object without asking what is ahead: some 60 calls. */
     static String picture(FirstUmbrella x) {
         StringBuilder all = new StringBuilder();
@@ -38,6 +44,40 @@ final class Towns {
         for (int i = 0; i < 6; i++) {
             all.append("| street ").append(x.street(i, 0)).append(' ').append(x.street(i, 1)).append(' ');
             all.append(x.street(i, 2));
+        }
+        return all.toString();
+    }
+
+    /**
+     * All that an object shows, also by calls that change it: what is told, what is ahead, all that can be undone, both
+     * slots, the text. Some 290 calls, and the object is used up.
+     */
+    static String whole(FirstUmbrella x) {
+        StringBuilder all = new StringBuilder(picture(x));
+        all.append("| ahead ").append(x.needs(9, 0)).append(' ').append(x.needs(20, 0)).append(' ').append(x.needs(20, 1));
+        all.append(' ').append(x.asked(0)).append(' ').append(x.wet(0, 20)).append(' ').append(x.wet(5, 20));
+        all.append("| felt ").append(x.may(0)).append(' ').append(x.may(1));
+        all.append("| seed ").append(x.seed(0));
+        for (int left = x.undo(); left >= 0; left = x.undo()) {
+            all.append("| undone ").append(left).append(' ').append(shortly(x));
+        }
+        for (int slot = 0; slot < 2; slot++) {
+            all.append("| slot ").append(x.again(slot)).append(' ').append(shortly(x));
+            for (int i = 0; i < 6; i++) {
+                all.append(' ').append(x.street(i, 0)).append(' ').append(x.street(i, 1));
+            }
+            all.append(' ').append(x.about(5)).append(' ').append(x.about(7));
+        }
+        all.append("| text ").append(x.fault()).append(' ').append(x.town()).append(' ').append(shortly(x));
+        return all.append(' ').append(x.wipe()).toString();
+    }
+
+    private static String shortly(FirstUmbrella x) {
+        StringBuilder all = new StringBuilder();
+        all.append(x.about(2)).append(' ').append(x.about(3)).append(' ').append(x.about(4)).append(' ');
+        all.append(x.about(6)).append(' ');
+        for (int i = 0; i < 5; i++) {
+            all.append(x.walker(i, 0));
         }
         return all.toString();
     }
